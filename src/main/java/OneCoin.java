@@ -63,7 +63,8 @@ public final class OneCoin {
     private final Duchy kept = new Duchy();
     private final Duchy trial = new Duchy();
     private final Law law = new Law(people);
-    private final LawReader lawReader = new LawReader(tape, people);
+    private final Law draft = new Law(people);
+    private final LawReader lawReader = new LawReader(tape, draft);
     private final DebtsReader debtsReader = new DebtsReader(tape, people);
     private final RouteReader routeReader = new RouteReader(tape);
     private final Clock clock = new Clock(people, law);
@@ -117,7 +118,7 @@ public final class OneCoin {
         int answer = lawReader.read();
         tape.clear();
         if (answer > 0) {
-            law.takeFrom(lawReader.draft);
+            law.takeFrom(draft);
         }
         return answer;
     }
@@ -551,7 +552,8 @@ public final class OneCoin {
                 return false;
             }
             limit = n;
-            goTo(0);
+            place = -1;
+            step();
             return true;
         }
 
@@ -560,12 +562,8 @@ public final class OneCoin {
         }
 
         void step() {
-            goTo(place + 1);
-        }
-
-        private void goTo(int where) {
-            place = where;
-            next = where >= 0 && where < limit && where < TAPE_BYTES ? bytes[where] : END;
+            place++;
+            next = place >= 0 && place < limit && place < TAPE_BYTES ? bytes[place] : END;
         }
 
         boolean ended() {
@@ -913,9 +911,9 @@ public final class OneCoin {
         private final Tape text;
         private final Law draft;
 
-        LawReader(Tape text, People people) {
+        LawReader(Tape text, Law draft) {
             this.text = text;
-            draft = new Law(people);
+            this.draft = draft;
         }
 
         /** How many RULES, or the FAULT. */

@@ -305,6 +305,13 @@ public final class PromiseTest {
         T.due("no DRAW", x.count(11), 1);
         x.hours(3);
         T.due("HELD in them alone", x.tried(2, 10), 2);
+        OneCoin grown = Calls.owing(3, "a>b2;a>c3;b>c");
+        Calls.law(grown, "i10(n<3);i0-1(h=1);i[o-11]/[n-3]+o(1=1)");
+        T.due("interest, 9 at most", grown.tried(1, 4), 9 + 9);
+        Calls.law(grown, "i10(n<2);i0-1(n>2);i[o-1](1=1)");
+        T.due("interest, 0 at least, o as it is then", grown.tried(1, 4), 4 + 9);
+        Calls.law(grown, "i7(n=2&o=5);i1(n=3&o=12)");
+        T.due("o has grown before the next DEBT", grown.tried(1, 4), 7 + 1);
     }
 
     private static void p10PersonIs() {
