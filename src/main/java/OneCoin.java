@@ -1405,7 +1405,6 @@ public final class OneCoin {
         /** Whether all DEBTS can be paid in one row from one (Euler's rule for such rows). */
         static boolean isOneRow(int[] debts, int from) {
             int payers = 0;
-            int ends = 0;
             for (int p = 0; p < PEOPLE; p++) {
                 int pays = 0;
                 int gets = 0;
@@ -1413,13 +1412,13 @@ public final class OneCoin {
                     pays += debts[p * PEOPLE + q];
                     gets += debts[q * PEOPLE + p];
                 }
-                if (pays > gets + 1 || (pays == gets + 1 && p != from) || gets > pays + 1) {
+                // where nobody else pays more than one gets, nobody but the last can get more than one pays
+                if (pays > gets + (p == from ? 1 : 0)) {
                     return false;
                 }
-                ends += gets > pays ? 1 : 0;
                 payers |= pays > 0 ? 1 << p : 0;
             }
-            return ends <= 1 && (payers & ~reachedFrom(debts, from)) == 0;
+            return (payers & ~reachedFrom(debts, from)) == 0;
         }
 
         /** The least row of all DEBTS, which must be one row. */

@@ -3,6 +3,7 @@ import java.nio.charset.StandardCharsets;
 /** What the tests share: texts fed to the tape, and answers compared with those that are due. */
 final class Calls {
     private final String test;
+    private String sentence = "";
     private int asked;
     private int wrong;
 
@@ -10,11 +11,17 @@ final class Calls {
         this.test = test;
     }
 
+    /** The words of the document that the next calls hold the program to. */
+    void says(String words) {
+        sentence = words;
+    }
+
     void due(String call, long got, long want) {
         asked++;
         if (got != want) {
             wrong++;
-            System.out.println(call + " answered " + got + ", due is " + want);
+            String behind = sentence.isEmpty() ? "" : " (" + sentence + ")";
+            System.out.println(call + " answered " + got + ", due is " + want + behind);
         }
     }
 
@@ -99,6 +106,23 @@ final class Calls {
             throw new IllegalStateException("no DEBTS: " + debts);
         }
         return x;
+    }
+
+    /** So many told ones, the first one with THE COIN, at THE HOUR 0 of DAY 0. */
+    static OneCoin holding(int many, String debts) {
+        OneCoin x = owing(many, debts);
+        x.coin(0);
+        return x;
+    }
+
+    /** THE SEED whose first DRAW is this digit. */
+    static int seedFor(int draw) {
+        for (int seed = 0; seed < 65536; seed++) {
+            if ((25173 * seed + 13849 & 65535) % 10 == draw) {
+                return seed;
+            }
+        }
+        throw new IllegalStateException("no SEED draws " + draw);
     }
 
     static int[] tourRow(OneCoin x) {
